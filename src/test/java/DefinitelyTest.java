@@ -2,13 +2,49 @@
 public final class DefinitelyTest {
     public static void main(String[] args) {
         Due due = new Due();
+        onlyCut(due);
         firstAndLastCut(due);
         oneProcess(due);
+        oneRunIsEnoughAgainst(due);
         runsAround(due);
         messagesForce(due);
         askedAgain(due);
-        refuses(due);
+        refusesNoSet(due);
         due.end();
+    }
+
+    // "every run": with no event there is one run, of one cut.
+    private static void onlyCut(Due due) {
+        CutWatch x = new CutWatch();
+        for (int set = 1; set <= 7; set++) {
+            due.is("definitely(" + set + "), none good", x.definitely(set), 0);
+        }
+        for (int p = 0; p < 3; p++) {
+            x.start(p, true);
+            due.is("definitely(7), good up to " + p, x.definitely(7), p == 2 ? 1 : 0);
+        }
+        for (int set = 1; set <= 7; set++) {
+            due.is("definitely(" + set + "), all good", x.definitely(set), 1);
+        }
+    }
+
+    // "else 0": two processes with 8 events each, and all runs have a good cut but those that move q to its end first.
+    private static void oneRunIsEnoughAgainst(Due due) {
+        for (int set = 3; set <= 6; set++) {
+            if (set != 4) {
+                int p = set == 6 ? 1 : 0;
+                int q = set == 3 ? 1 : 2;
+                CutWatch x = new CutWatch();
+                for (int k = 1; k <= 8; k++) {
+                    x.step(p, true);
+                    x.step(q, k < 8);
+                }
+                due.is("definitely(" + set + "), q first and p then", x.definitely(set), 0);
+                due.is("possibly(" + set + ")", x.possibly(set), 1);
+                x.start(p, true);
+                due.is("definitely(" + set + "), p always good", x.definitely(set), 1);
+            }
+        }
     }
 
     private static void firstAndLastCut(Due due) {
@@ -82,7 +118,8 @@ public final class DefinitelyTest {
         due.is("definitely(1) again", x.definitely(1), 1);
     }
 
-    private static void refuses(Due due) {
+    // TermsRefusedTest looks at all that must not change.
+    private static void refusesNoSet(Due due) {
         CutWatch x = new CutWatch();
         for (int p = 0; p < 3; p++) {
             x.start(p, true);

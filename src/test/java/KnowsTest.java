@@ -1,27 +1,16 @@
-/** Promise 6: knows tells what a process knows in each of its states. */
+/** Promise 6: knows tells what a process knows in each of its states. TermsKnowingTest has the rule of knowing. */
 public final class KnowsTest {
     public static void main(String[] args) {
         Due due = new Due();
-        ofItself(due);
         passesOn(due);
-        asOfTheSending(due);
-        refuses(due);
+        fromState0ToTheLast(due);
+        refusesFewerThanKEvents(due);
+        refusesKBelow0(due);
+        refusesNoProcess(due);
         due.end();
     }
 
-    private static void ofItself(Due due) {
-        CutWatch x = new CutWatch();
-        for (int k = 1; k <= 8; k++) {
-            x.step(2, false);
-        }
-        for (int k = 0; k <= 8; k++) {
-            due.is("knows(2, " + k + ", 2)", x.knows(2, k, 2), k);
-            due.is("knows(2, " + k + ", 0)", x.knows(2, k, 0), 0);
-            due.is("knows(2, " + k + ", 1)", x.knows(2, k, 1), 0);
-        }
-        due.is("knows(2, 9, 2)", x.knows(2, 9, 2), -1);
-    }
-
+    // "How many events of process q the process knows in its state k"
     private static void passesOn(Due due) {
         CutWatch x = new CutWatch();
         x.step(0, false);
@@ -48,30 +37,68 @@ public final class KnowsTest {
         due.is("its state before", x.knows(0, 3, 2), 0);
     }
 
-    private static void asOfTheSending(Due due) {
-        CutWatch x = new CutWatch();
-        x.send(1, false);
-        x.send(2, false);
-        x.receive(1, 1, false);
-        x.step(1, false);
-        x.receive(0, 0, false);
-        due.is("of the sender's later events", x.knows(0, 1, 1), 1);
-        due.is("of what the sender heard later", x.knows(0, 1, 2), 0);
+    private static void fromState0ToTheLast(Due due) {
+        for (int p = 0; p < 3; p++) {
+            CutWatch x = new CutWatch();
+            for (int last = 0; last <= 8; last++) {
+                due.is("in state 0 of " + last, x.knows(p, 0, p), 0);
+                due.is("in the last state, of itself", x.knows(p, last, p), last);
+                due.is("in the last state, of another", x.knows(p, last, (p + 1) % 3), 0);
+                x.step(p, false);
+            }
+        }
     }
 
-    private static void refuses(Due due) {
+    // "-1 also if it has fewer than k events": k is one more than there are, or far more; the others' events do not count.
+    private static void refusesFewerThanKEvents(Due due) {
+        for (int p = 0; p < 3; p++) {
+            CutWatch x = new CutWatch();
+            for (int n = 0; n < 8; n++) {
+                x.step((p + 1) % 3, false);
+                x.step((p + 2) % 3, false);
+            }
+            for (int last = 0; last <= 8; last++) {
+                for (int q = 0; q < 3; q++) {
+                    due.is("knows one state too far of " + last, x.knows(p, last + 1, q), -1);
+                    due.is("knows(" + p + ", 9, " + q + ")", x.knows(p, 9, q), -1);
+                }
+                x.step(p, false);
+            }
+        }
+        for (Past past : Past.values()) {
+            Twins twins = new Twins(due, past);
+            for (int k : Wrong.STATES) {
+                for (int n = 0; n < 9; n++) {
+                    int p = n / 3;
+                    int q = n % 3;
+                    twins.refuse("knows(" + p + ", " + k + ", " + q + ")", x -> x.knows(p, k, q));
+                }
+            }
+            twins.answerAlike("knows of no state");
+        }
+    }
+
+    // "or k is below 0"
+    private static void refusesKBelow0(Due due) {
+        CutWatch x = new CutWatch();
+        Past.FULL_AND_GOOD_IN_THE_LAST_STATE.on(x);
+        int[] below = {-1, -2, -8, -9, -27, Integer.MIN_VALUE};
+        for (int k : below) {
+            for (int p = 0; p < 3; p++) {
+                for (int q = 0; q < 3; q++) {
+                    due.is("knows(" + p + ", " + k + ", " + q + ")", x.knows(p, k, q), -1);
+                }
+            }
+        }
+    }
+
+    private static void refusesNoProcess(Due due) {
         CutWatch x = new CutWatch();
         x.step(0, false);
         for (int p : Wrong.PROCESSES) {
             due.is("knows(" + p + ", 0, 0)", x.knows(p, 0, 0), -1);
             due.is("knows(0, 0, " + p + ")", x.knows(0, 0, p), -1);
         }
-        int[] states = {-1, 2, 8, 9, 10, -9, Integer.MIN_VALUE, Integer.MAX_VALUE};
-        for (int k : states) {
-            due.is("knows(0, " + k + ", 0)", x.knows(0, k, 0), -1);
-            due.is("knows(0, " + k + ", 1)", x.knows(0, k, 1), -1);
-        }
-        due.is("knows(1, 1, 0)", x.knows(1, 1, 0), -1);
         due.is("knows(0, 1, 0)", x.knows(0, 1, 0), 1);
     }
 }

@@ -4,9 +4,10 @@ public final class LeastTest {
         Due due = new Due();
         raisesOthers(due);
         skipsImpossible(due);
-        noneThere(due);
+        firstStates(due);
         lastStates(due);
-        refuses(due);
+        noneThere(due);
+        refusesNoSetAndNoProcess(due);
         due.end();
     }
 
@@ -45,7 +46,41 @@ public final class LeastTest {
         least(due, x, 7, new int[] {1, 0, 2});
     }
 
+    // "as low as in any other such cut": state 0 is an answer, for a process of the set and for one outside it.
+    private static void firstStates(Due due) {
+        CutWatch x = new CutWatch();
+        for (int p = 0; p < 3; p++) {
+            x.start(p, true);
+        }
+        for (int set = 1; set <= 7; set++) {
+            least(due, x, set, new int[] {0, 0, 0});
+        }
+        for (int n = 0; n < 24; n++) {
+            x.step(n % 3, true);
+        }
+        for (int set = 1; set <= 7; set++) {
+            least(due, x, set, new int[] {0, 0, 0});
+        }
+        x.start(1, false);
+        for (int set = 1; set <= 7; set++) {
+            least(due, x, set, new int[] {0, set >> 1 & 1, 0});
+        }
+    }
+
+    // "-1 also if there is none": no good state, or good states in impossible cuts alone.
     private static void noneThere(Due due) {
+        CutWatch none = new CutWatch();
+        for (int set = 1; set <= 7; set++) {
+            least(due, none, set, new int[] {-1, -1, -1});
+        }
+        CutWatch impossible = new CutWatch();
+        impossible.start(0, true);
+        impossible.send(0, false);
+        impossible.receive(1, 0, true);
+        least(due, impossible, 3, new int[] {-1, -1, -1});
+        least(due, impossible, 1, new int[] {0, 0, 0});
+        least(due, impossible, 2, new int[] {1, 1, 0});
+
         CutWatch x = new CutWatch();
         x.step(0, true);
         least(due, x, 2, new int[] {-1, -1, -1});
@@ -53,6 +88,7 @@ public final class LeastTest {
         least(due, x, 1, new int[] {1, 0, 0});
     }
 
+    // "The state of the process": up to 8.
     private static void lastStates(Due due) {
         CutWatch x = new CutWatch();
         for (int k = 1; k <= 8; k++) {
@@ -64,13 +100,15 @@ public final class LeastTest {
         least(due, x, 2, new int[] {0, 8, 0});
     }
 
-    private static void refuses(Due due) {
+    // TermsRefusedTest looks at all that must not change.
+    private static void refusesNoSetAndNoProcess(Due due) {
         CutWatch x = new CutWatch();
         for (int p = 0; p < 3; p++) {
             x.start(p, true);
         }
         for (int set : Wrong.SETS) {
             due.is("least(" + set + ", 0)", x.least(set, 0), -1);
+            due.is("least(" + set + ", -1)", x.least(set, -1), -1);
         }
         for (int p : Wrong.PROCESSES) {
             due.is("least(7, " + p + ")", x.least(7, p), -1);

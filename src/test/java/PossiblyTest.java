@@ -4,7 +4,9 @@ public final class PossiblyTest {
         Due due = new Due();
         looksAtTheSetAlone(due);
         looksAtPossibleCutsAlone(due);
-        refuses(due);
+        oneCutIsEnough(due);
+        noneIsNotEnough(due);
+        refusesNoSet(due);
         due.end();
     }
 
@@ -44,7 +46,40 @@ public final class PossiblyTest {
         due.is("possibly(3) by way of 2", y.possibly(3), 0);
     }
 
-    private static void refuses(Due due) {
+    // "1 if some possible cut is good": one alone, be it the first, the last or one between.
+    private static void oneCutIsEnough(Due due) {
+        for (int good = 0; good <= 8; good++) {
+            CutWatch x = new CutWatch();
+            for (int p = 0; p < 3; p++) {
+                x.start(p, good == 0);
+            }
+            for (int k = 1; k <= 8; k++) {
+                for (int p = 0; p < 3; p++) {
+                    x.step(p, k == good);
+                }
+                for (int set = 1; set <= 7; set++) {
+                    due.is("possibly(" + set + "), good in " + good + " of " + k, x.possibly(set), k >= good ? 1 : 0);
+                }
+            }
+        }
+    }
+
+    // "else 0": no event at all, no good state, and a good state in a process outside the set.
+    private static void noneIsNotEnough(Due due) {
+        CutWatch x = new CutWatch();
+        for (int set = 1; set <= 7; set++) {
+            due.is("possibly(" + set + ") of a new object", x.possibly(set), 0);
+        }
+        for (int n = 0; n < 24; n++) {
+            x.step(n % 3, n % 3 == 1);
+        }
+        for (int set = 1; set <= 7; set++) {
+            due.is("possibly(" + set + ") with 1 good", x.possibly(set), set == 2 ? 1 : 0);
+        }
+    }
+
+    // TermsRefusedTest looks at all that must not change.
+    private static void refusesNoSet(Due due) {
         CutWatch x = new CutWatch();
         for (int p = 0; p < 3; p++) {
             x.start(p, true);

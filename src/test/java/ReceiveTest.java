@@ -2,11 +2,34 @@
 public final class ReceiveTest {
     public static void main(String[] args) {
         Due due = new Due();
+        isAnEvent(due);
         receivesInAnyOrder(due);
-        refusesMessages(due);
-        refusesFullProcess(due);
-        refusesProcesses(due);
+        answersTheNumberOfEvents(due);
+        receivesTheLastMessageThereCanBe(due);
+        refusesWith8Events(due);
+        refusesMessageNeverSent(due);
+        refusesMessageReceived(due);
+        refusesOwnMessage(due);
+        refusesNoProcess(due);
         due.end();
+    }
+
+    // "The process has an event that receives the message."
+    private static void isAnEvent(Due due) {
+        CutWatch x = new CutWatch();
+        x.send(0, false);
+        x.receive(1, 0, true);
+        due.is("events(1)", x.events(1), 1);
+        due.is("events(0)", x.events(0), 1);
+        due.is("least(2, 1)", x.least(2, 1), 1);
+        due.is("knows(1, 1, 0)", x.knows(1, 1, 0), 1);
+        due.is("cuts()", x.cuts(), 3);
+        due.is("possibly(1)", x.possibly(1), 0);
+
+        CutWatch y = new CutWatch();
+        y.send(0, false);
+        y.receive(1, 0, false);
+        due.is("possibly(2) after one to a bad state", y.possibly(2), 0);
     }
 
     private static void receivesInAnyOrder(Due due) {
@@ -16,60 +39,136 @@ public final class ReceiveTest {
         x.send(2, false);
         due.is("receive(1, 1, true)", x.receive(1, 1, true), 1);
         due.is("knows(1, 1, 0)", x.knows(1, 1, 0), 2);
-        due.is("least(2, 1)", x.least(2, 1), 1);
         due.is("receive(1, 2, false)", x.receive(1, 2, false), 2);
         due.is("receive(1, 0, false)", x.receive(1, 0, false), 3);
         due.is("knows(1, 3, 0) after an older message", x.knows(1, 3, 0), 2);
         due.is("knows(1, 3, 2)", x.knows(1, 3, 2), 1);
         due.is("events(0)", x.events(0), 2);
-        due.is("events(1)", x.events(1), 3);
     }
 
-    private static void refusesMessages(Due due) {
+    // "Answers the number of its events then": from 1 to 8, and of all kinds.
+    private static void answersTheNumberOfEvents(Due due) {
         CutWatch x = new CutWatch();
-        x.send(0, false);
-        int[] unsent = {-1, 1, 2, 23, 24, 25, 1000, Integer.MIN_VALUE, Integer.MAX_VALUE};
-        for (int message : unsent) {
-            due.is("receive(1, " + message + ", true)", x.receive(1, message, true), -1);
-        }
-        due.is("receive of its own message", x.receive(0, 0, true), -1);
-        due.is("events(0) after it", x.events(0), 1);
-        due.is("events(1) after it", x.events(1), 0);
-        due.is("possibly(1) after it", x.possibly(1), 0);
-        due.is("possibly(2) after it", x.possibly(2), 0);
-        due.is("receive(2, 0, false) after refused ones", x.receive(2, 0, false), 1);
-        due.is("receive again", x.receive(2, 0, true), -1);
-        due.is("receive by another", x.receive(1, 0, true), -1);
-        due.is("receive by the sender", x.receive(0, 0, true), -1);
-        due.is("events(2) after it", x.events(2), 1);
-        due.is("knows(1, 0, 0) after it", x.knows(1, 0, 0), 0);
-        due.is("cuts()", x.cuts(), 3);
-    }
-
-    private static void refusesFullProcess(Due due) {
-        CutWatch x = new CutWatch();
-        x.send(0, false);
-        for (int k = 1; k <= 8; k++) {
-            x.step(1, false);
-        }
-        due.is("receive with 8 events", x.receive(1, 0, true), -1);
-        due.is("events(1)", x.events(1), 8);
-        due.is("knows(1, 8, 0)", x.knows(1, 8, 0), 0);
-        due.is("possibly(2)", x.possibly(2), 0);
-        due.is("the message is still there", x.receive(2, 0, true), 1);
-
-        CutWatch y = new CutWatch();
         for (int message = 0; message < 8; message++) {
-            y.send(message % 2 * 2, false);
+            x.send(message % 2 * 2, false);
         }
         for (int message = 7; message >= 0; message--) {
-            due.is("receive(1, " + message + ", false)", y.receive(1, message, false), 8 - message);
+            due.is("receive(1, " + message + ", false)", x.receive(1, message, false), 8 - message);
         }
-        due.is("send after 8 received", y.send(1, false), -1);
-        due.is("step after 8 received", y.step(1, false), -1);
+        x.step(0, false);
+        x.send(2, false);
+        due.is("receive after four sends and a step", x.receive(0, 8, false), 6);
     }
 
-    private static void refusesProcesses(Due due) {
+    // "the message": 24 events leave room to receive number 22, none higher.
+    private static void receivesTheLastMessageThereCanBe(Due due) {
+        CutWatch x = new CutWatch();
+        for (int message = 0; message < 7; message++) {
+            x.send(2, false);
+        }
+        for (int message = 7; message < 23; message++) {
+            x.send(message % 2, false);
+        }
+        due.is("receive(2, 23, false)", x.receive(2, 23, false), -1);
+        due.is("receive(2, 22, false)", x.receive(2, 22, false), 8);
+        due.is("knows(2, 8, 0)", x.knows(2, 8, 0), 8);
+        due.is("knows(2, 8, 1)", x.knows(2, 8, 1), 0);
+    }
+
+    // "-1 also if it has 8 events": and the message stays for another to receive.
+    private static void refusesWith8Events(Due due) {
+        Twins twins = new Twins(due, Past.ONE_IS_FULL);
+        for (int n = 0; n < 2; n++) {
+            int message = n;
+            twins.refuse("receive(1, " + message + ", true)", x -> x.receive(1, message, true));
+            twins.refuse("receive(1, " + message + ", false)", x -> x.receive(1, message, false));
+        }
+        twins.answerAlike("receives of 1 as the ninth event");
+
+        Past[] full = {Past.FULL_OF_STEPS, Past.FULL_OF_SENDS, Past.FULL_AND_GOOD_IN_THE_LAST_STATE};
+        for (Past past : full) {
+            Twins others = new Twins(due, past);
+            for (int n = 0; n < 72; n++) {
+                int p = n % 3;
+                int message = n / 3;
+                others.refuse("receive(" + p + ", " + message + ", true)", x -> x.receive(p, message, true));
+            }
+            others.answerAlike("receives as the ninth event");
+        }
+
+        CutWatch x = new CutWatch();
+        Past.ONE_IS_FULL.on(x);
+        due.is("receive(1, 0, true)", x.receive(1, 0, true), -1);
+        due.is("the message is still there", x.receive(2, 0, false), 2);
+    }
+
+    // "or the message was never sent": below 0, the next one to come, and all above it.
+    private static void refusesMessageNeverSent(Due due) {
+        Past[] pasts = {Past.NEW, Past.GOOD_AT_THE_START, Past.MESSAGES_UNDER_WAY,
+            Past.ALL_RECEIVED_GOOD_IN_THE_LAST_STATE, Past.ONE_IS_FULL};
+        int[] sent = {0, 0, 4, 3, 2};
+        for (int n = 0; n < pasts.length; n++) {
+            for (int m = 0; m < 3; m++) {
+                int p = m;
+                Twins twins = new Twins(due, pasts[n]);
+                for (int message = sent[n]; message < 24; message++) {
+                    int unsent = message;
+                    twins.refuse("receive(" + p + ", " + unsent + ", true)", x -> x.receive(p, unsent, true));
+                }
+                for (int message : Wrong.MESSAGES) {
+                    twins.refuse("receive(" + p + ", " + message + ", true)", x -> x.receive(p, message, true));
+                    twins.refuse("receive(" + p + ", " + message + ", false)", x -> x.receive(p, message, false));
+                }
+                twins.answerAlike("receives of messages never sent by " + p);
+            }
+        }
+    }
+
+    // "has been received": by this process, or by another.
+    private static void refusesMessageReceived(Due due) {
+        Twins twins = new Twins(due, Past.ALL_RECEIVED_GOOD_IN_THE_LAST_STATE);
+        for (int n = 0; n < 9; n++) {
+            int p = n % 3;
+            int message = n / 3;
+            twins.refuse("receive(" + p + ", " + message + ", true)", x -> x.receive(p, message, true));
+            twins.refuse("receive(" + p + ", " + message + ", false)", x -> x.receive(p, message, false));
+        }
+        twins.answerAlike("receives of messages received");
+
+        // Message 0 went from 0 to 1; the others are under way.
+        Twins others = new Twins(due, Past.MESSAGES_UNDER_WAY);
+        others.refuse("receive(1, 0, true)", x -> x.receive(1, 0, true));
+        others.refuse("receive(2, 0, true)", x -> x.receive(2, 0, true));
+        others.answerAlike("receives of one message received");
+    }
+
+    // "or was sent by this process": also when it is received, and it stays for another to receive.
+    private static void refusesOwnMessage(Due due) {
+        Twins twins = new Twins(due, Past.MESSAGES_UNDER_WAY);
+        int[] sender = {0, 1, 2, 1};
+        for (int n = 0; n < 4; n++) {
+            int message = n;
+            int p = sender[n];
+            twins.refuse("receive(" + p + ", " + message + ", true)", x -> x.receive(p, message, true));
+            twins.refuse("receive(" + p + ", " + message + ", false)", x -> x.receive(p, message, false));
+        }
+        twins.answerAlike("receives of own messages");
+
+        CutWatch x = new CutWatch();
+        for (int p = 0; p < 3; p++) {
+            x.send(p, false);
+        }
+        for (int p = 0; p < 3; p++) {
+            due.is("receive(" + p + ", " + p + ", true)", x.receive(p, p, true), -1);
+            due.is("events(" + p + ")", x.events(p), 1);
+            due.is("possibly(" + (1 << p) + ")", x.possibly(1 << p), 0);
+        }
+        for (int p = 0; p < 3; p++) {
+            due.is("the message of " + p + " is still there", x.receive((p + 1) % 3, p, false), 2);
+        }
+    }
+
+    private static void refusesNoProcess(Due due) {
         CutWatch x = new CutWatch();
         x.send(0, false);
         for (int p : Wrong.PROCESSES) {

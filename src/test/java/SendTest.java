@@ -2,43 +2,81 @@
 public final class SendTest {
     public static void main(String[] args) {
         Due due = new Due();
-        numbersMessages(due);
         isAnEvent(due);
-        refuses(due);
+        sendsAMessage(due);
+        answersTheNumberOfTheMessage(due);
+        refusesWith8Events(due);
+        refusesNoProcess(due);
         due.end();
     }
 
-    private static void numbersMessages(Due due) {
-        CutWatch x = new CutWatch();
-        for (int message = 0; message < 24; message++) {
-            due.is("send " + message, x.send(message % 3, false), message);
-        }
-        for (int p = 0; p < 3; p++) {
-            due.is("a ninth send of " + p, x.send(p, true), -1);
-            due.is("events after the refused send", x.events(p), 8);
-            due.is("possibly after the refused send", x.possibly(1 << p), 0);
-        }
-    }
-
+    // "The process has an event"
     private static void isAnEvent(Due due) {
         CutWatch x = new CutWatch();
-        due.is("send(1, true)", x.send(1, true), 0);
+        x.send(1, true);
         due.is("events(1)", x.events(1), 1);
         due.is("events(0)", x.events(0), 0);
         due.is("least(2, 1)", x.least(2, 1), 1);
         due.is("knows(1, 1, 1)", x.knows(1, 1, 1), 1);
-        due.is("knows(0, 0, 1) before it is received", x.knows(0, 0, 1), 0);
         due.is("cuts()", x.cuts(), 2);
-        due.is("send(1, false)", x.send(1, false), 1);
+        x.send(1, false);
+        due.is("least(2, 1) after one to a bad state", x.least(2, 1), 1);
         due.is("definitely(2)", x.definitely(2), 1);
-        for (int k = 3; k <= 8; k++) {
-            due.is("step of a sender", x.step(1, false), k);
-        }
-        due.is("send after 8 mixed events", x.send(1, false), -1);
-        due.is("a refused send takes no number", x.send(2, false), 2);
     }
 
-    private static void refuses(Due due) {
+    // "that sends a message"
+    private static void sendsAMessage(Due due) {
+        for (int p = 0; p < 3; p++) {
+            for (int q = 0; q < 3; q++) {
+                CutWatch x = new CutWatch();
+                x.send(p, false);
+                due.is("knows(" + q + ", 0, " + p + ") before it is received", x.knows(q, 0, p), 0);
+                due.is("receive(" + q + ", 0, false), sent by " + p, x.receive(q, 0, false), p == q ? -1 : 1);
+            }
+        }
+    }
+
+    // "Answers the number of the message": from 0 to 23, the most there can be.
+    private static void answersTheNumberOfTheMessage(Due due) {
+        CutWatch x = new CutWatch();
+        for (int message = 0; message < 24; message++) {
+            due.is("send " + message + " in turn", x.send(message % 3, false), message);
+        }
+        CutWatch y = new CutWatch();
+        for (int message = 0; message < 24; message++) {
+            due.is("send " + message + " in rows", y.send(message / 8, false), message);
+        }
+        CutWatch z = new CutWatch();
+        for (int k = 1; k <= 7; k++) {
+            z.step(0, false);
+        }
+        due.is("the first message as the eighth event", z.send(0, false), 0);
+    }
+
+    // "-1 also if it has 8 events": and the refused message takes no number.
+    private static void refusesWith8Events(Due due) {
+        Past[] full = {Past.FULL_OF_STEPS, Past.FULL_OF_SENDS, Past.FULL_AND_GOOD_IN_THE_LAST_STATE};
+        for (Past past : full) {
+            for (int n = 0; n < 3; n++) {
+                int p = n;
+                Twins twins = new Twins(due, past);
+                twins.refuse("send(" + p + ", true)", x -> x.send(p, true));
+                twins.refuse("send(" + p + ", false)", x -> x.send(p, false));
+                twins.answerAlike("a send of " + p + " as the ninth event");
+            }
+        }
+        Twins twins = new Twins(due, Past.ONE_IS_FULL);
+        twins.refuse("send(1, true)", x -> x.send(1, true));
+        twins.answerAlike("a send of 1 as the ninth event");
+
+        CutWatch x = new CutWatch();
+        Past.ONE_IS_FULL.on(x);
+        due.is("send(1, false)", x.send(1, false), -1);
+        due.is("no message of it", x.receive(0, 2, false), -1);
+        due.is("the next message", x.send(2, false), 2);
+    }
+
+    private static void refusesNoProcess(Due due) {
         CutWatch x = new CutWatch();
         for (int p : Wrong.PROCESSES) {
             due.is("send(" + p + ", true)", x.send(p, true), -1);
