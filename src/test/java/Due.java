@@ -1,4 +1,4 @@
-/** Compares answers with those that are due, tells the wrong ones and ends the test with exit code 1 if there was one. */
+/** Compares answers with those that are due, tells the wrong ones and ends with exit code 1 if there was one. */
 final class Due {
     private int wrong = 0;
 

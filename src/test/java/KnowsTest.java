@@ -49,7 +49,7 @@ public final class KnowsTest {
         }
     }
 
-    // "-1 also if it has fewer than k events": k is one more than there are, or far more; the others' events do not count.
+    // "-1 also if it has fewer than k events": k is one too many, or far more; the others' events do not count.
     private static void refusesFewerThanKEvents(Due due) {
         for (int p = 0; p < 3; p++) {
             CutWatch x = new CutWatch();

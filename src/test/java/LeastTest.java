@@ -4,6 +4,8 @@ public final class LeastTest {
         Due due = new Due();
         raisesOthers(due);
         skipsImpossible(due);
+        lowInEachProcess(due);
+        oneIfThereAreAny(due);
         firstStates(due);
         lastStates(due);
         noneThere(due);
@@ -44,6 +46,39 @@ public final class LeastTest {
         x.step(2, false);
         x.step(2, true);
         least(due, x, 7, new int[] {1, 0, 2});
+    }
+
+    // "the one in which each process's state is as low as in any other such cut": lower in all, not in one or in sum.
+    private static void lowInEachProcess(Due due) {
+        CutWatch x = new CutWatch();
+        for (int k = 1; k <= 4; k++) {
+            x.step(0, k == 2 || k == 4);
+            x.step(1, k == 1 || k == 3);
+        }
+        x.send(0, true);
+        x.receive(2, 0, true);
+        least(due, x, 3, new int[] {2, 1, 0});
+        least(due, x, 7, new int[] {5, 1, 1});
+        x.step(2, false);
+        x.send(1, false);
+        x.receive(2, 1, true);
+        least(due, x, 5, new int[] {5, 0, 1});
+        least(due, x, 6, new int[] {5, 1, 1});
+        least(due, x, 7, new int[] {5, 1, 1});
+    }
+
+    // "there is such a one if there are any"
+    private static void oneIfThereAreAny(Due due) {
+        for (Past past : Past.values()) {
+            CutWatch x = new CutWatch();
+            past.on(x);
+            for (int set = 1; set <= 7; set++) {
+                int any = x.possibly(set);
+                for (int p = 0; p < 3; p++) {
+                    due.is(past + ": least(" + set + ", " + p + ") is a state", x.least(set, p) >= 0 ? 1 : 0, any);
+                }
+            }
+        }
     }
 
     // "as low as in any other such cut": state 0 is an answer, for a process of the set and for one outside it.

@@ -69,7 +69,7 @@ public final class TermsKnowingTest {
         }
     }
 
-    // "the greatest of": an older message takes nothing away, a newer one adds, and one of the same event changes nothing.
+    // "the greatest of": an older message takes nothing away, a newer one adds, an equal one changes nothing.
     private static void theGreatestOfBoth(Due due) {
         CutWatch x = new CutWatch();
         x.send(0, false);

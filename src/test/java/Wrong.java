@@ -1,4 +1,4 @@
-/** Arguments that the document refuses: just out of range, far out, and such as a cast or a mask would bring back in. */
+/** Arguments that the document refuses: just out of range, far out, and such as a cast or a mask brings back in. */
 final class Wrong {
     static final int[] PROCESSES = {-1, 3, 4, -2, -3, 9, 27, 256, 65537, 1 << 30,
         Integer.MIN_VALUE, Integer.MIN_VALUE + 1, Integer.MAX_VALUE};
